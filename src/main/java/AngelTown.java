@@ -230,6 +230,7 @@ public final class AngelTown {
             case 4:
                 return town.planLengths[angel] - course.ordersTaken[angel];
             case 5:
+                care.prepare();
                 return care.worth(angel);
             case 6:
                 return foresight.bestWait(angel);
@@ -278,6 +279,7 @@ public final class AngelTown {
     }
 
     public int least(int what) {
+        care.prepare();
         if (what == 0) {
             return care.riskLeft();
         }
@@ -291,6 +293,7 @@ public final class AngelTown {
         if (what != 0 && what != 1) {
             return NONE;
         }
+        care.prepare();
         int group = care.fewestGroup();
         return what == 0 ? Integer.bitCount(group) : group;
     }
@@ -1406,42 +1409,43 @@ public final class AngelTown {
 
         /** C. */
         private boolean readClause(int open) {
-            boolean not = next == Tape.NOT;
-            if (!not && next != Tape.OPENING) {
-                return readComparison();
+            int sign = next;
+            if (sign == Tape.NOT || sign == Tape.OPENING) {
+                if (open >= OPEN_SIGNS) {
+                    return faulty(TOO_MANY);
+                }
+                advance();
+                if (sign == Tape.OPENING) {
+                    return readCondition(open + 1) && takes(Tape.CLOSING);
+                }
+                boolean good = readClause(open + 1);
+                law.emit(Law.NOT);
+                return good;
             }
-            if (open >= OPEN_SIGNS) {
-                return faulty(TOO_MANY);
-            }
-            advance();
-            if (!not) {
-                return readCondition(open + 1) && takes(Tape.CLOSING);
-            }
-            if (!readClause(open + 1)) {
-                return false;
-            }
-            law.emit(Law.NOT);
-            return true;
-        }
-
-        private boolean readComparison() {
             if (!readSum()) {
                 return false;
             }
-            int comparison = Law.EQUAL;
-            if (next == Tape.BELOW) {
-                comparison = Law.LESS;
-            } else if (next == Tape.ABOVE) {
-                comparison = Law.MORE;
-            } else if (next != Tape.EQUALS) {
+            int comparison = comparison();
+            if (comparison == NONE) {
                 return faulty(CANT_STAND);
             }
             advance();
-            if (!readSum()) {
-                return false;
-            }
+            boolean good = readSum();
             law.emit(comparison);
-            return true;
+            return good;
+        }
+
+        private int comparison() {
+            switch (next) {
+                case Tape.BELOW:
+                    return Law.LESS;
+                case Tape.EQUALS:
+                    return Law.EQUAL;
+                case Tape.ABOVE:
+                    return Law.MORE;
+                default:
+                    return NONE;
+            }
         }
 
         /** E, with the T's of which it is made: a + or - waits until the T behind it is whole. */
@@ -1449,19 +1453,22 @@ public final class AngelTown {
             int waiting = NONE;
             boolean good = readUnit();
             for (int n = 0; n < TAPE && good; n++) {
-                int sign = next;
-                if (sign == Tape.STAR || sign == Tape.SLASH) {
-                    advance();
-                    good = sign == Tape.STAR ? readUnit() : readDivisor();
-                    law.emit(sign == Tape.STAR ? Law.TIMES : Law.PART);
+                if (passes(Tape.STAR)) {
+                    good = readUnit();
+                    law.emit(Law.TIMES);
+                } else if (passes(Tape.SLASH)) {
+                    law.emit(Law.PUSH);
+                    law.emit(number());
+                    good = takeNumber(1, MOST_NUMBER) != NONE;
+                    law.emit(Law.PART);
                 } else {
                     if (waiting != NONE) {
                         law.emit(waiting);
                     }
-                    if (sign != Tape.PLUS && sign != Tape.MINUS) {
+                    if (next != Tape.PLUS && next != Tape.MINUS) {
                         return true;
                     }
-                    waiting = sign == Tape.PLUS ? Law.ADD : Law.SUBTRACT;
+                    waiting = next == Tape.PLUS ? Law.ADD : Law.SUBTRACT;
                     advance();
                     good = readUnit();
                 }
@@ -1481,12 +1488,6 @@ public final class AngelTown {
             }
             advance();
             return true;
-        }
-
-        private boolean readDivisor() {
-            law.emit(Law.PUSH);
-            law.emit(number());
-            return takeNumber(1, MOST_NUMBER) != NONE;
         }
     }
 
@@ -1570,12 +1571,12 @@ public final class AngelTown {
             return now.second + stepsBetween(now.angelPlaces[a], place) * town.paces[a];
         }
 
-        boolean couldAlone(int a, int i) {
-            int second = comesIn(i);
-            return second != NONE && arrival(a, town.mishapRows[i * MISHAP_ROW + PLACE]) <= second;
+        private boolean couldAlone(int a, int i) {
+            return foreseen[i] != NONE && arrival(a, town.mishapRows[i * MISHAP_ROW + PLACE]) <= foreseen[i];
         }
 
         int whoCould(int i) {
+            foresee();
             int set = 0;
             for (int a = 0; a < town.angels; a++) {
                 if (couldAlone(a, i)) {
@@ -1587,9 +1588,10 @@ public final class AngelTown {
 
         /** The mishaps that are foreseen and to which just so many angels could see alone. */
         int seenToBy(int angels) {
+            foresee();
             int set = 0;
             for (int i = 0; i < town.mishaps; i++) {
-                if (comesIn(i) != NONE && Integer.bitCount(whoCould(i)) == angels) {
+                if (foreseen[i] != NONE && Integer.bitCount(whoCould(i)) == angels) {
                     set |= 1 << i;
                 }
             }
@@ -1597,6 +1599,7 @@ public final class AngelTown {
         }
 
         int bestWait(int a) {
+            foresee();
             int best = 0;
             int most = 0;
             for (int place = 0; place < PLACES; place++) {
@@ -1678,23 +1681,19 @@ public final class AngelTown {
         }
 
         int riskLeft() {
-            prepare();
             return risks[full()] - most(everybody());
         }
 
         int worth(int a) {
-            prepare();
             return most(everybody()) - most(everybody() & ~(1 << a));
         }
 
         int setOf(int a) {
-            prepare();
             choose();
             return spread(chosen[a]);
         }
 
         int setLeft() {
-            prepare();
             choose();
             int left = full();
             for (int a = 0; a < town.angels; a++) {
@@ -1704,7 +1703,6 @@ public final class AngelTown {
         }
 
         int fewestGroup() {
-            prepare();
             int most = most(everybody());
             for (int size = 0; size < town.angels && fewestAngels == NONE; size++) {
                 fewestAngels = groupOf(size, most);
@@ -1744,14 +1742,19 @@ public final class AngelTown {
         }
 
         private static boolean holds(int[] words, int row, int set) {
-            return (words[row * WORDS + (set >> 5)] >>> (set & 31) & 1) != 0;
+            int word = row * WORDS + (set >> 5);
+            return word >= 0 && word < words.length && (words[word] >>> (set & 31) & 1) != 0;
         }
 
         private static void put(int[] words, int row, int set) {
-            words[row * WORDS + (set >> 5)] |= 1 << (set & 31);
+            int word = row * WORDS + (set >> 5);
+            if (word >= 0 && word < words.length) {
+                words[word] |= 1 << (set & 31);
+            }
         }
 
-        private void prepare() {
+        /** To be called ahead of each question. */
+        void prepare() {
             if (fresh) {
                 return;
             }
