@@ -125,6 +125,19 @@ public final class BackTest {
             x.undo();
             same("P24 as it was in second " + i, all(x), seen[i]);
         }
+        x = busy();
+        x.set(1, 3, 9);
+        Check.tell(x, 1, 0, "mishap 30 at 1 from 0 to 9 chance 40;mishap 20 at 12 from 5 to 20 unless push chance 80;"
+            + "mishap 9 at 2 from 1 to 30 ward 1;mishap 70 at 8 from 0 to 40 chance 10;");
+        for (int i = 0; i < 6; i++) {
+            seen[i] = all(x);
+            x.seconds(1);
+        }
+        for (int i = 5; i >= 0; i--) {
+            x.undo();
+            same("P24 as it was in second " + i + " with doors", all(x), seen[i]);
+        }
+        seen[0] = all(busy());
         AngelTown y = busy();
         y.seconds(4);
         for (int i = 0; i < 4; i++) {
@@ -241,6 +254,7 @@ public final class BackTest {
                 x.town(2, 2);
                 x.ward(9);
                 x.angel(9, 9);
+                x.other(9, 5, 6);
                 x.state(1);
                 x.set(0, 0, 9);
                 Check.tell(x, 0, 0, "again 9(east 60;)");
@@ -273,5 +287,19 @@ public final class BackTest {
         due("P25 again", x.image(false), true);
         due("P25 two", x.look(3), 2);
         due("P25 none such", x.of(2, 0), NONE);
+        x = new AngelTown();
+        x.angel(0, 1);
+        Check.tell(x, 2, 0, "push;push;push;");
+        x.other(63, 0, 0);
+        x.other(0, 1, 1);
+        x.image(true);
+        x.town(8, 8);
+        x.other(0, 0, 0);
+        x.other(0, 2, 2);
+        x.image(false);
+        x.seconds(3);
+        for (int line = 0; line < 3; line++) {
+            due("P25 the others are those of the image", x.book(line, 4), line == 1 ? 0 : 1);
+        }
     }
 }

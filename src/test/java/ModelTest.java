@@ -30,7 +30,11 @@ public final class ModelTest {
             int shape = run % 10;
             ModelTest t = shape == 0 ? new ModelTest(run, 7, 3) : shape == 1 ? new ModelTest(run, 10, 2)
                 : shape == 2 ? new ModelTest(run, 4, 6) : new ModelTest(run, 5, 4);
-            t.go();
+            if (run % 3 == 2) {
+                t.thinkOnly();
+            } else {
+                t.go();
+            }
             wrong += t.wrong;
             calls += t.calls;
         }
@@ -89,6 +93,48 @@ public final class ModelTest {
             }
         }
         lookAtAll();
+    }
+
+    /** People who stand, mishaps at one second each, often of equal harm: many ways to see to them. */
+    private void thinkOnly() {
+        int w = 2 + r(7);
+        int h = 2 + r(7);
+        due("town", x.town(w, h), y.town(w, h));
+        for (int i = 2 + r(5); i > 0; i--) {
+            addWard();
+        }
+        for (int i = 1 + r(mostAngels); i > 0; i--) {
+            addAngel();
+        }
+        for (int round = 0; round < 6 && wrong == 0; round++) {
+            int guard = r(10);
+            due("set", x.set(0, 0, guard), y.set(0, 0, guard));
+            int harms = one(2) ? 1 : 1 + r(4);
+            StringBuilder b = new StringBuilder();
+            for (int n = 1 + r(mostMishaps); n > 0; n--) {
+                int s = y.all.second + r(8 + 4 * round);
+                int p = y.all.wards.isEmpty() ? 0 : y.all.wards.get(r(y.all.wards.size())).place;
+                b.append("mishap ").append(1 + r(harms)).append(" at ").append(p).append(" from ").append(s).append(" to ").append(s);
+                b.append(one(4) ? " chance 50;" : ";");
+            }
+            due("end 0", x.end(0), y.end(0));
+            Check.feed(x, b.toString());
+            y.tape = b.toString();
+            latest = b.toString();
+            due("text 1", x.text(1, 0), y.text(1, 0));
+            due("hopeless", x.hopeless(), y.hopeless());
+            due("shows", x.shows(), y.shows());
+            for (int what = 0; what < 16; what++) {
+                due("least " + what, x.least(what), y.least(what));
+            }
+            for (int a = 0; a < 6; a++) {
+                due("worth " + a, x.at(a, 5), y.at(a, 5));
+                due("wait " + a, x.at(a, 6), y.at(a, 6));
+            }
+            due("fewest 0", x.fewest(0), y.fewest(0));
+            due("fewest 1", x.fewest(1), y.fewest(1));
+            due("seconds", x.seconds(1), y.seconds(1));
+        }
     }
 
     private int place() {

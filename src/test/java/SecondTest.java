@@ -231,6 +231,18 @@ public final class SecondTest {
         due("P15 averted", x.mishap(1, 7), 1);
         due("P15 its time was over", x.mishap(0, 7), 0);
         due("P15 it comes no more", x.mishap(0, 8), NONE);
+        x = new AngelTown();
+        x.angel(9, 1);
+        int[] places = {0, 9, 9, 10, 1, 9};
+        for (int i = 0; i < 6; i++) {
+            x.other(places[i], 2 * i, 2 * i);
+        }
+        Check.tell(x, 2, 0, "push;".repeat(12));
+        x.seconds(12);
+        for (int second = 0; second < 12; second++) {
+            boolean spoilt = second == 2 || second == 4 || second == 10;
+            due("P16 worked in second " + second, x.book(second, 4), spoilt ? 0 : 1);
+        }
     }
 
     private static void mishapsByChance() {

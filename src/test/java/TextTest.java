@@ -82,6 +82,14 @@ public final class TextTest {
         due("P10 none", x.look(6), 0);
         due("P10 the law anew", Check.tell(x, 3, 0, ""), 0);
         due("P10 no law", x.look(8), 0);
+        x = new AngelTown();
+        x.angel(0, 1);
+        due("P10 an angel is no ward", Check.tell(x, 0, 0, "east 1;"), NONE);
+        due("P11 nor is it a fault", x.fault(0), 0);
+        x = new AngelTown();
+        x.ward(0);
+        due("P10 a ward is no angel", Check.tell(x, 2, 0, "push;"), NONE);
+        due("P11 nor is it a fault", x.fault(0), 0);
     }
 
     private static void aFaultAltersNothing() {
@@ -142,7 +150,12 @@ public final class TextTest {
         bad(0, "again 9(again 9(again 9(again 9(west 60;)))", 1, 43);
         bad(0, "go 1;", 1, 0);
         bad(0, "East 1;", 1, 0);
-        bad(0, "eastX 1;", 1, 0);
+        for (char c : "AXZaxz".toCharArray()) {
+            bad(0, "east" + c + " 1;", 1, 0);
+        }
+        for (char c : "@[`{_.,:'!/".toCharArray()) {
+            bad(0, "east" + c + " 1;", 1, 4);
+        }
         bad(0, "easteast 1;", 1, 0);
         bad(0, "\teast 1;", 1, 0);
         bad(0, "east 1;" + (char) 233, 1, 7);
@@ -271,5 +284,12 @@ public final class TextTest {
         due("P10 the first line that is so", x.book(0, 4), 0);
         due("P10 the second one", x.book(1, 4), 1);
         due("P10 none: it is spoilt", x.book(2, 4), 0);
+        x = new AngelTown();
+        x.angel(0, 1);
+        Check.tell(x, 2, 0, "push;gust;");
+        Check.tell(x, 3, 0, "fails when 1=2;".repeat(15) + "fails when kind=1;");
+        x.seconds(2);
+        due("P10 none of sixteen", x.book(0, 4), 1);
+        due("P10 the sixteenth", x.book(1, 4), 0);
     }
 }

@@ -10,6 +10,7 @@ public final class ThoughtTest {
         leastByTwo();
         leastTakesTheFirstWay();
         leastInAnotherOrder();
+        leastOfSeveralSets();
         guardFromNowOn();
         fewestAngels();
         allTenAndAllSix();
@@ -177,6 +178,26 @@ public final class ThoughtTest {
         due("P18 the lesser one is left", x.least(1), 1);
     }
 
+    /** Of the sets that are worth as much the first one in number need not give the first way. */
+    private static void leastOfSeveralSets() {
+        AngelTown x = new AngelTown();
+        x.set(0, 0, 0);
+        x.ward(0);
+        x.ward(5);
+        x.ward(6);
+        x.angel(5, 9);
+        x.angel(3, 1);
+        Check.tell(x, 1, 0, "mishap 1 at 0 from 3 to 3;mishap 1 at 5 from 2 to 2;mishap 1 at 6 from 4 to 4;");
+        // angel 1 sees to 0, or to 1 and 2; with him at 0 angel 0 could see to 1, which is as much
+        due("P18 one is left", x.least(0), 100);
+        due("P18 which", x.least(1), 1);
+        due("P18 angel 0 does nothing", x.least(10), 0);
+        due("P18 angel 1", x.least(11), 6);
+        due("P19 angel 1 alone", x.fewest(1), 2);
+        due("P14 worth of angel 0", x.at(0, 5), 0);
+        due("P14 worth of angel 1", x.at(1, 5), 100);
+    }
+
     private static void guardFromNowOn() {
         AngelTown x = new AngelTown();
         x.set(0, 0, 9);
@@ -260,6 +281,12 @@ public final class ThoughtTest {
         x.seconds(1);
         due("P20 a second later", x.hopeless(), 3);
         due("P21 a second later", x.shows(), 12);
+        Check.tell(x, 1, 0, "mishap 1 at 63 from 0 to 99;");
+        due("P20 nobody is there", x.hopeless(), 0);
+        Check.tell(x, 1, 0, "mishap 1 at 36 from 0 to 99;");
+        due("P20 at once", x.hopeless(), 1);
+        Check.tell(x, 1, 0, "mishap 1 at 4 from 9 to 9;");
+        due("P21 at once", x.shows(), 1);
     }
 
     private static void whereToWait() {
@@ -278,6 +305,8 @@ public final class ThoughtTest {
         due("P14 of several the least", x.at(0, 6), 3);
         Check.tell(x, 1, 0, "mishap 30 at 4 from 3 to 3;");
         due("P14 none in time", x.at(0, 6), 0);
+        Check.tell(x, 1, 0, "mishap 1 at 4 from 4 to 4 chance 1;");
+        due("P14 the least risk", x.at(0, 6), 4);
     }
 
     private static void lot(String harms, long number, long by) {
