@@ -1716,11 +1716,22 @@ public final class AngelTown {
         /** The first group of so many angels that sees to so much, or NONE. */
         private int groupOf(int size, int most) {
             for (int group = 0; group <= everybody(); group++) {
-                if (Integer.bitCount(group) == size && most(group) == most) {
+                if (Integer.bitCount(group) == size && reach(group) >= most && most(group) == most) {
                     return group;
                 }
             }
             return NONE;
+        }
+
+        /** The risk of all to which one or another of a group could see alone. */
+        private int reach(int group) {
+            int set = 0;
+            for (int a = 0; a < town.angels; a++) {
+                if ((group >> a & 1) != 0) {
+                    set |= alone[a];
+                }
+            }
+            return risks[set & full()];
         }
 
         private int everybody() {
@@ -1875,8 +1886,13 @@ public final class AngelTown {
         }
 
         private void join(int a, int part, int joint) {
-            for (int set = 0; set <= full(); set++) {
-                if (splits(a, part, set)) {
+            put(covered, joint, 0);
+            int highest = 1;
+            for (int set = 1; set <= full(); set++) {
+                highest = set == 2 * highest ? set : highest;
+                // What is seen to is seen to without one of it too, so most sets need not be split in vain.
+                boolean hope = holds(covered, joint, set & set - 1) && holds(covered, joint, set & ~highest);
+                if (hope && splits(a, part, set)) {
                     put(covered, joint, set);
                 }
             }
