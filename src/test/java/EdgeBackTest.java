@@ -25,6 +25,7 @@ public final class EdgeBackTest {
         undoWithNothing();
         noImageAtFirst();
         imageOfAll();
+        imageOfAFullTown();
         imageLeavesTapeAndFault();
         imageHasNothingToUndo();
         imageMoreThanOnce();
@@ -387,6 +388,78 @@ public final class EdgeBackTest {
             y.state(y.look(9));
             y.image(true);
             Whole.same(CHECK, "P25 back to " + second, x, y);
+        }
+    }
+
+    /** As much as there can be of each, and each of its own. */
+    private static AngelTown full() {
+        AngelTown x = new AngelTown();
+        x.state(5);
+        x.set(0, 0, 2);
+        for (int k = 0; k < 5; k++) {
+            x.set(1, k, k % 4);
+        }
+        for (int w = 0; w < 8; w++) {
+            x.ward(9 * w);
+            Check.tell(x, 0, w, "again 9(stand " + (1 + w) + ";east 2;west 2;)");
+        }
+        for (int a = 0; a < 6; a++) {
+            x.angel(11 * a, 1 + a % 3);
+            x.other(9 * a, a, a + 20);
+            Check.tell(x, 2, a, (a % 2 == 0 ? "push;" : "cat;").repeat(5) + "go " + (20 + a) + ";gust;go " + 9 * a + ";" + "door;".repeat(32));
+        }
+        StringBuilder mishaps = new StringBuilder();
+        for (int i = 0; i < 10; i++) {
+            mishaps.append("mishap ").append(10 + i).append(" at ").append(9 * (i % 8)).append(" from ").append(3 * i).append(" to 99");
+            mishaps.append(i % 2 == 0 ? " chance 50;" : ";");
+        }
+        due("P10 ten", Check.tell(x, 1, 0, mishaps.toString()), 10);
+        StringBuilder law = new StringBuilder();
+        for (int i = 0; i < 16; i++) {
+            law.append(i % 2 == 0 ? "works" : "fails").append(" when second=").append(2 * i).append(';');
+        }
+        due("P10 sixteen", Check.tell(x, 3, 0, law.toString()), 16);
+        return x;
+    }
+
+    private static void retold(AngelTown x) {
+        x.town(8, 8);
+        for (int i = 0; i < 8; i++) {
+            x.ward(63);
+            Check.tell(x, 0, i, "again 9(north 60;)west 60;");
+        }
+        for (int i = 0; i < 6; i++) {
+            x.angel(63, 9);
+            Check.tell(x, 2, i, "gust;".repeat(40));
+            x.other(63, 0, 599);
+        }
+        Check.tell(x, 1, 0, "mishap 99 at 62 from 0 to 599 unless cat chance 1;".repeat(8));
+        Check.tell(x, 3, 0, "fails;".repeat(16));
+        x.seconds(30);
+    }
+
+    private static void imageOfAFullTown() {
+        int[] seconds = {0, 1, 9, 30};
+        for (int second : seconds) {
+            AngelTown x = full();
+            AngelTown y = full();
+            if (second > 0) {
+                x.seconds(second);
+                y.seconds(second);
+            }
+            x.image(true);
+            retold(x);
+            due("P25 back", x.image(false), true);
+            y.image(true);
+            x.seconds(40);
+            y.seconds(40);
+            due("P26 the book is full", x.look(7), 100);
+            for (int line = 0; line < 100; line += 9) {
+                for (int what = 0; what < 6; what++) {
+                    due("P25 line " + line, x.book(line, what), y.book(line, what));
+                }
+            }
+            Whole.same(CHECK, "P25 a full town goes on from " + second, x, y);
         }
     }
 

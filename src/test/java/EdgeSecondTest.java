@@ -38,6 +38,7 @@ public final class EdgeSecondTest {
         withoutALineUnlessSpoilt();
         whatTheLawAsks();
         hundredLines();
+        tenMishapsAtOnce();
         ofHasNoOther();
         atHasNoOther();
         mishapHasNoOther();
@@ -758,6 +759,32 @@ public final class EdgeSecondTest {
         due("P24 undone once more", x.look(7), 96);
         due("P16 line 96 is gone", x.book(96, 0), NONE);
         due("P16 line 95 is there", x.book(95, 0), 23);
+    }
+
+    /** MISHAPS 0 .. 9, all of them: HAPPENED, or AVERTED by one doing */
+    private static void tenMishapsAtOnce() {
+        for (int pushed = 0; pushed < 2; pushed++) {
+            AngelTown x = new AngelTown();
+            for (int i = 0; i < 8; i++) {
+                x.ward(9);
+            }
+            for (int a = 0; a < 6; a++) {
+                x.angel(9, 1);
+            }
+            Check.tell(x, 1, 0, "mishap 99 at 9 from 0 to 0;".repeat(10));
+            Check.tell(x, 2, 5, pushed == 1 ? "push;" : "wait 1;push;");
+            due("P14 WAIT", x.at(5, 6), 9);
+            due("P17 PLANNED", x.planned(0), pushed == 1 ? 0 : 99000);
+            due("P17 AVERTED", x.planned(1), 10 * pushed);
+            due("P12 ten come", x.seconds(1), 10);
+            x.seconds(1);
+            due("P26 all HARM", x.look(10), pushed == 1 ? 0 : 990);
+            due("P26 AVERTED", x.look(11), 10 * pushed);
+            due("P16 by one doing", x.book(0, 5), pushed == 1 ? 1023 : 0);
+            due("P15 the last one", x.mishap(9, 7), 2 - pushed);
+            due("P15 its line", x.mishap(9, 9), pushed == 1 ? 0 : NONE);
+            due("P14 nowhere to WAIT", x.at(5, 6), 0);
+        }
     }
 
     /** "NONE if there is none such, or another what" */

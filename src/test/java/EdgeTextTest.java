@@ -37,6 +37,7 @@ public final class EdgeTextTest {
         intsWrap();
         partsGoTowardsNone();
         howTightlyTheLawBinds();
+        lawsAsLongAsTheTape();
         emptyTexts();
         noSuchOne();
         faultTellsOfTheLatest();
@@ -544,6 +545,10 @@ public final class EdgeTextTest {
     /** "/ goes towards 0" */
     private static void partsGoTowardsNone() {
         says("7/2=3", true);
+        says("7/1=7", true);
+        says("7/7=1", true);
+        says("7/8=0", true);
+        says("9999/9999=1", true);
         says("8/2=4", true);
         says("1/2=0", true);
         says("0-7/2=0-3", true);
@@ -572,6 +577,35 @@ public final class EdgeTextTest {
         says("1>1", false);
         says("0<1 and 1>0", true);
         says("1=0 or 0=1", false);
+    }
+
+    /** A line of 400 bytes, with as many values and signs as these hold, told again and again */
+    private static void lawsAsLongAsTheTape() {
+        AngelTown x = new AngelTown();
+        x.angel(0, 1);
+        for (int round = 0; round < 6; round++) {
+            // the first half of it or the second one is so: 1 + 1 + .. is 90
+            String sum = "1+".repeat(89) + "1=";
+            String text = "works when " + sum + (round % 2 == 0 ? "90" : "91") + " or " + sum + (round % 3 == 0 ? "90" : "89") + ";";
+            due("P10 a line", Check.tell(x, 3, 0, text + " ".repeat(400 - text.length())), 1);
+            Check.tell(x, 2, 0, "push;");
+            x.other(0, round, round);
+            x.seconds(1);
+            due("P16 by it, in round " + round, x.book(round, 4), round % 2 == 0 || round % 3 == 0 ? 1 : 0);
+        }
+        AngelTown y = new AngelTown();
+        y.angel(0, 1);
+        y.other(0, 0, 9);
+        String most = "works when " + "1+".repeat(191) + "1=192;\n";
+        due("as long as the tape", most.length(), 400);
+        due("P10 a line", Check.tell(y, 3, 0, most), 1);
+        due("P10 told again", Check.tell(y, 3, 0, most), 1);
+        Check.tell(y, 2, 0, "push;push;");
+        y.seconds(1);
+        due("P16 it is so", y.book(0, 4), 1);
+        Check.tell(y, 3, 0, most.replace("192", "191"));
+        y.seconds(1);
+        due("P16 it is not so", y.book(1, 4), 0);
     }
 
     /** An empty text is one. */

@@ -21,12 +21,14 @@ public final class EdgeThoughtTest {
         aDoingTakesItsSecond();
         guardAheadNotAheadOfNow();
         oneBehindTheOther();
+        inTheBestOrder();
         eachByOneAtMost();
         theFirstOfSeveralWays();
         leastOfNone();
         leastHasNoOther();
         fewestOfNone();
         fewestIsTheLeastSet();
+        fewestAheadOfLeast();
         fewestHasNoOther();
         hopelessOfThoseForeseen();
         showsJustOne();
@@ -355,6 +357,29 @@ public final class EdgeThoughtTest {
         due("P18 at 2 in 2, free in 3, at 4 in 5", y.least(10), 3);
     }
 
+    /** Four in a row of places, told in every order of their numbers: there is one order in time that sees to all. */
+    private static void inTheBestOrder() {
+        int[][] orders = {{1, 2, 3, 4}, {1, 2, 4, 3}, {1, 3, 2, 4}, {1, 3, 4, 2}, {1, 4, 2, 3}, {1, 4, 3, 2}, {2, 1, 3, 4}, {2, 1, 4, 3},
+            {2, 3, 1, 4}, {2, 3, 4, 1}, {2, 4, 1, 3}, {2, 4, 3, 1}, {3, 1, 2, 4}, {3, 1, 4, 2}, {3, 2, 1, 4}, {3, 2, 4, 1}, {3, 4, 1, 2},
+            {3, 4, 2, 1}, {4, 1, 2, 3}, {4, 1, 3, 2}, {4, 2, 1, 3}, {4, 2, 3, 1}, {4, 3, 1, 2}, {4, 3, 2, 1}};
+        for (int[] order : orders) {
+            for (int last = 6; last <= 8; last++) {
+                AngelTown x = new AngelTown();
+                x.set(0, 0, 9);
+                x.angel(0, 1);
+                StringBuilder text = new StringBuilder();
+                for (int place : order) {
+                    x.ward(place);
+                    int second = place == 4 ? last : 7;
+                    text.append("mishap 1 at ").append(place).append(" from ").append(second).append(" to ").append(second).append(';');
+                }
+                Check.tell(x, 1, 0, text.toString());
+                // at 1 in 1, at 2 in 3, at 3 in 5, at 4 in 7
+                due("P18 all four by " + last, x.least(0), last >= 7 ? 0 : 100);
+            }
+        }
+    }
+
     /** "each MISHAP seen to by one ANGEL at most" */
     private static void eachByOneAtMost() {
         AngelTown x = new AngelTown();
@@ -479,6 +504,23 @@ public final class EdgeThoughtTest {
         due("P19 none is enough for both but two: 0 and 3", x.fewest(1), 9);
         Check.tell(x, 1, 0, "mishap 1 at 0 from 0 to 0;mishap 1 at 7 from 8 to 8;");
         due("P19 angel 3 alone is enough", x.fewest(1), 8);
+    }
+
+    /** Fewer ones go ahead of a set that is less as a number. */
+    private static void fewestAheadOfLeast() {
+        AngelTown x = new AngelTown();
+        x.set(0, 0, 0);
+        x.ward(0);
+        x.ward(7);
+        x.angel(0, 9);
+        x.angel(7, 9);
+        x.angel(0, 1);
+        Check.tell(x, 1, 0, "mishap 1 at 0 from 0 to 0;mishap 1 at 7 from 8 to 8;");
+        due("P19 one", x.fewest(0), 1);
+        due("P19 angel 2, not 0 and 1", x.fewest(1), 4);
+        Check.tell(x, 1, 0, "mishap 1 at 0 from 0 to 0;mishap 1 at 7 from 7 to 7;");
+        due("P19 two", x.fewest(0), 2);
+        due("P19 angels 0 and 1", x.fewest(1), 3);
     }
 
     private static void fewestHasNoOther() {

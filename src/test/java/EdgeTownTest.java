@@ -11,6 +11,7 @@ public final class EdgeTownTest {
         aTownThatCantBe();
         toldAnewAllIsAsAtFirst();
         toldAnewTheseStay();
+        toldAnewWhoComesIsNew();
         placesAreThoseOfTheTown();
         guardIsNoneToNine();
         pausesAreNoneToNine();
@@ -105,6 +106,34 @@ public final class EdgeTownTest {
         due("P3 the image stays", x.image(false), true);
         due("P3 with its town", x.look(0), 5);
         due("P3 with its second", x.look(2), 1);
+    }
+
+    /** Who comes to a town told anew has nothing of who had his number before. */
+    private static void toldAnewWhoComesIsNew() {
+        AngelTown x = new AngelTown();
+        x.set(1, 0, 9);
+        x.ward(0);
+        x.angel(0, 9);
+        Check.tell(x, 0, 0, "east 3;south 3;");
+        Check.tell(x, 2, 0, "push;push;go 3;cat;");
+        x.seconds(4);
+        due("P13 he stands STILL", x.of(0, 1), 14);
+        due("P14 he is BUSY", x.at(0, 2), 25);
+        x.town(8, 8);
+        due("P5 a ward", x.ward(7), 0);
+        due("P13 where he came", x.of(0, 0), 7);
+        due("P13 not STILL", x.of(0, 1), 0);
+        due("P13 no way", x.of(0, 2), 0);
+        due("P6 an angel", x.angel(56, 2), 0);
+        due("P14 where he came", x.at(0, 0), 56);
+        due("P14 his pace", x.at(0, 1), 2);
+        due("P14 not BUSY", x.at(0, 2), 0);
+        due("P14 nothing DONE", x.at(0, 3), 0);
+        due("P14 no orders", x.at(0, 4), 0);
+        x.seconds(60);
+        due("P13 there yet", x.of(0, 0), 7);
+        due("P14 there yet", x.at(0, 0), 56);
+        due("P26 no lines", x.look(7), 0);
     }
 
     private static int tellAt(int w, int h, int k, String before, int place, String behind) {
