@@ -37,6 +37,7 @@ public final class EdgeTextTest {
         intsWrap();
         partsGoTowardsNone();
         howTightlyTheLawBinds();
+        deepConditions();
         lawsAsLongAsTheTape();
         emptyTexts();
         noSuchOne();
@@ -577,6 +578,25 @@ public final class EdgeTextTest {
         says("1>1", false);
         says("0<1 and 1>0", true);
         says("1=0 or 0=1", false);
+        says("1=2 and(1=1)", false);
+        says("1=1 and(1=2)", false);
+        says("1=2 or(1=1)", true);
+        says("1=2 or(1=2)", false);
+        says("1=2 and(1=1 or 1=1)", false);
+        says("1=1 and(1=2 or 1=1)", true);
+        says("(1=2 and 1=1)or(1=1 and 1=1)", true);
+        says("1=1 and not(1=2 or 1=1)", false);
+    }
+
+    /** At each of eight that are open an or and an and wait for what stands within. */
+    private static void deepConditions() {
+        String[] ends = {"9-2*3=3", "9-2*3=4"};
+        for (int i = 0; i < 2; i++) {
+            says("1=2 or 1=1 and(".repeat(8) + ends[i] + ")".repeat(8), i == 0);
+            says("1=2 or 1=1 and(".repeat(8) + "1=2 or 1=1 and " + ends[i] + ")".repeat(8), i == 0);
+            says("not(1=2 or 1=1 and ".repeat(4) + ends[i] + ")".repeat(4), i == 0);
+            says("not(1=2 or 1=1 and ".repeat(3) + ends[i] + ")".repeat(3), i == 1);
+        }
     }
 
     /** A line of 400 bytes, with as many values and signs as these hold, told again and again */

@@ -445,6 +445,11 @@ public final class EdgeThoughtTest {
         due("P18 it is not foreseen", x.least(1), 0);
         x.ward(0);
         due("P18 now it is seen to", x.least(10), 1);
+        x.ward(63);
+        Check.tell(x, 1, 0, "mishap 9 at 63 from 13 to 13;");
+        due("P18 nothing that he could see to", x.least(10), 0);
+        due("P18 it is left", x.least(1), 1);
+        due("P18 its RISK", x.least(0), 900);
     }
 
     private static void leastHasNoOther() {
@@ -614,6 +619,7 @@ public final class EdgeThoughtTest {
     /** "of several the least" */
     private static void waitOfSeveralTheLeast() {
         AngelTown x = new AngelTown();
+        x.ward(0);
         x.angel(63, 1);
         due("P14 none anywhere", x.at(0, 6), 0);
         x.ward(5);
@@ -625,6 +631,10 @@ public final class EdgeThoughtTest {
         due("P14 two are alike", x.at(0, 6), 40);
         Check.tell(x, 1, 0, "mishap 4 at 63 from 50 to 50;mishap 1 at 40 from 50 to 50;mishap 3 at 40 from 60 to 60 chance 99;");
         due("P14 one is most", x.at(0, 6), 63);
+        Check.tell(x, 1, 0, "mishap 4 at 63 from 50 to 50;mishap 4 at 0 from 50 to 50;mishap 3 at 5 from 50 to 50;");
+        due("P14 the first place of all", x.at(0, 6), 0);
+        Check.tell(x, 1, 0, "mishap 4 at 63 from 50 to 50;mishap 3 at 0 from 50 to 50;mishap 4 at 5 from 50 to 50;");
+        due("P14 not it", x.at(0, 6), 5);
     }
 
     /** "10 the ANGELS who could see to it alone (a set; 0 if it is OVER or not FORESEEN)" */
