@@ -1652,19 +1652,25 @@ public final class AngelTown {
     private static final class Care {
         private static final int SETS = 1 << MISHAPS;
         private static final int WORDS = SETS / 32;
+        // No more sets of ten can be so that none lies in another: those of five.
+        private static final int MOST_WIDEST = 252;
 
         private final Town town;
         private final Course now;
         private final Foresight foresight;
         private int count;
         private final int[] picked = new int[MISHAPS];
-        private final int[] places = new int[MISHAPS];
         private final int[] comes = new int[MISHAPS];
+        // The steps from one to another.
+        private final int[] far = new int[MISHAPS * MISHAPS];
         private final int[] risks = new int[SETS];
         private final int[] alone = new int[ANGELS];
         // Of each angel the sets that he can see to; of each group of angels those that it can.
         private final int[] able = new int[ANGELS * WORDS];
         private final int[] covered = new int[GROUPS * WORDS];
+        // Of each angel the sets that he can see to and that lie in no greater one.
+        private final int[] widest = new int[ANGELS * MOST_WIDEST];
+        private final int[] widestCounts = new int[ANGELS];
         private final int[] known = new int[GROUPS];
         // The second in which an angel is free again behind a set whose last mishap is this one.
         private final int[] free = new int[SETS * MISHAPS];
@@ -1773,10 +1779,12 @@ public final class AngelTown {
             isChosen = false;
             fewestAngels = NONE;
             pick();
+            measure();
             addRisks();
             Arrays.fill(able, 0);
             for (int a = 0; a < town.angels; a++) {
                 findAble(a);
+                findWidest(a);
             }
             Arrays.fill(covered, 0);
             Arrays.fill(known, 0);
@@ -1790,9 +1798,20 @@ public final class AngelTown {
                 int second = foresight.comesIn(i);
                 if (second != NONE && count < MISHAPS) {
                     picked[count] = i;
-                    places[count] = town.mishapRows[i * MISHAP_ROW + PLACE];
                     comes[count] = second;
                     count++;
+                }
+            }
+        }
+
+        private int placeOf(int n) {
+            return town.mishapRows[picked[n] * MISHAP_ROW + PLACE];
+        }
+
+        private void measure() {
+            for (int m = 0; m < count; m++) {
+                for (int n = 0; n < count; n++) {
+                    far[m * MISHAPS + n] = stepsBetween(placeOf(m), placeOf(n));
                 }
             }
         }
@@ -1810,7 +1829,7 @@ public final class AngelTown {
         private void findAble(int a) {
             alone[a] = 0;
             for (int n = 0; n < count; n++) {
-                if (freeBehind(a, n, now.angelPlaces[a], now.second) != NONE) {
+                if (freeFirst(a, n) != NONE) {
                     alone[a] |= 1 << n;
                 }
             }
@@ -1829,7 +1848,7 @@ public final class AngelTown {
                 int before = set & ~(1 << n);
                 int best = NONE;
                 if (before == 0) {
-                    best = freeBehind(a, n, now.angelPlaces[a], now.second);
+                    best = freeFirst(a, n);
                 } else if (before != set && holds(able, a, before)) {
                     best = freeLast(a, n, before);
                 }
@@ -1839,23 +1858,47 @@ public final class AngelTown {
             return can;
         }
 
+        private int freeFirst(int a, int n) {
+            return freeBehind(a, n, now.second, stepsBetween(now.angelPlaces[a], placeOf(n)));
+        }
+
         private int freeLast(int a, int n, int before) {
             int best = NONE;
             for (int m = 0; m < count; m++) {
                 int since = free[before * MISHAPS + m];
                 if ((before >> m & 1) != 0 && since != NONE) {
-                    int then = freeBehind(a, n, places[m], since);
+                    int then = freeBehind(a, n, since, far[m * MISHAPS + n]);
                     best = best == NONE || then != NONE && then < best ? then : best;
                 }
             }
             return best;
         }
 
-        /** When he is free again if he sets out from a place in a second to see to one, or NONE if too late. */
-        private int freeBehind(int a, int n, int place, int since) {
-            int there = since + stepsBetween(place, places[n]) * town.paces[a];
+        /** When he is free again if he sets out in a second, so many steps away, to see to one, or NONE if too late. */
+        private int freeBehind(int a, int n, int since, int steps) {
+            int there = since + steps * town.paces[a];
             int doing = Math.max(there, comes[n] - town.guard);
             return doing <= comes[n] ? doing + 1 : NONE;
+        }
+
+        /** From the greatest number on, so that what a set lies in comes ahead of it. */
+        private void findWidest(int a) {
+            widestCounts[a] = 0;
+            for (int set = alone[a]; set >= 0; set--) {
+                if (holds(able, a, set) && !liesInWider(a, set) && widestCounts[a] < MOST_WIDEST) {
+                    widest[a * MOST_WIDEST + widestCounts[a]] = set;
+                    widestCounts[a]++;
+                }
+            }
+        }
+
+        private boolean liesInWider(int a, int set) {
+            for (int i = 0; i < widestCounts[a]; i++) {
+                if ((set & ~widest[a * MOST_WIDEST + i]) == 0) {
+                    return true;
+                }
+            }
+            return false;
         }
 
         /** The greatest risk that a group sees to. */
@@ -1898,11 +1941,13 @@ public final class AngelTown {
             }
         }
 
-        /** Whether the angel sees to some of a set and the others of the group to what is left of it. */
+        /**
+         * Whether the angel sees to some of a set and the others of the group to what is left of it. The more
+         * he takes the less is left, so only the widest of his sets need be tried.
+         */
         private boolean splits(int a, int part, int set) {
-            int own = set & alone[a];
-            for (int s = own; s >= 0; s = s == 0 ? -1 : s - 1 & own) {
-                if (holds(able, a, s) && holds(covered, part, set & ~s)) {
+            for (int i = 0; i < widestCounts[a]; i++) {
+                if (holds(covered, part, set & ~widest[a * MOST_WIDEST + i])) {
                     return true;
                 }
             }
