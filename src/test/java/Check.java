@@ -27,6 +27,35 @@ final class Check {
         }
     }
 
+    /** A town of four by three with two wards and one angel, for texts. */
+    static AngelTown small() {
+        AngelTown x = new AngelTown();
+        x.town(4, 3);
+        x.ward(0);
+        x.ward(8);
+        x.angel(0, 1);
+        return x;
+    }
+
+    /** A text of ward 0 or angel 0 of the small town without a fault. */
+    void good(int k, String text, int want) {
+        told(k, text, want, 0, AngelTown.NONE);
+    }
+
+    void bad(int k, String text, int fault, int place) {
+        told(k, text, AngelTown.NONE, fault, place);
+    }
+
+    private void told(int k, String text, int want, int fault, int place) {
+        AngelTown x = small();
+        due("P10 " + text, tell(x, k, 0, text), want);
+        due("P11 of " + text, x.fault(0), fault);
+        due("P11 place of " + text, x.fault(1), place);
+        due("P11 what 2", x.fault(2), AngelTown.NONE);
+        due("P11 what -1", x.fault(-1), AngelTown.NONE);
+        due("P10 the tape is empty behind " + text, x.end(1), false);
+    }
+
     /** Feeds a text to the tape and tells it: what text() answers. */
     static int tell(AngelTown x, int k, int who, String text) {
         feed(x, text);

@@ -45,21 +45,7 @@ public final class EdgeBackTest {
 
     /** The lively town ahead of its seconds. */
     private static AngelTown early() {
-        AngelTown x = new AngelTown();
-        x.town(5, 4);
-        x.state(4242);
-        x.ward(0);
-        x.ward(3);
-        x.ward(18);
-        x.angel(0, 1);
-        x.angel(28, 2);
-        x.other(1, 2, 3);
-        x.set(1, 0, 2);
-        x.set(1, 4, 3);
-        Check.tell(x, 0, 0, "again 3(east 1;stand 1;)south 3;");
-        Check.tell(x, 0, 1, "west 4;south 4;");
-        Check.tell(x, 2, 0, "push;go 1;door;cat;go 8;gust;");
-        Check.tell(x, 2, 1, "go 18;glove;wait 2;go 12;push;push;");
+        AngelTown x = Whole.peopled();
         Check.tell(x, 1, 0, "mishap 30 at 1 from 0 to 9 chance 40;mishap 20 at 18 from 3 to 20 unless push chance 80;"
             + "mishap 9 at 2 from 1 to 30 ward 1;mishap 70 at 8 from 0 to 40 chance 10;mishap 8 at 18 from 9 to 9;");
         return x;

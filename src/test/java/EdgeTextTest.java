@@ -58,28 +58,15 @@ public final class EdgeTextTest {
     }
 
     private static AngelTown small() {
-        AngelTown x = new AngelTown();
-        x.town(4, 3);
-        x.ward(0);
-        x.ward(8);
-        x.angel(0, 1);
-        return x;
+        return Check.small();
     }
 
     private static void good(int k, String text, int want) {
-        AngelTown x = small();
-        due("P10 " + text, Check.tell(x, k, 0, text), want);
-        due("P11 no fault of " + text, x.fault(0), 0);
-        due("P11 no place of " + text, x.fault(1), NONE);
-        due("P10 the tape is empty behind " + text, x.end(1), false);
+        CHECK.good(k, text, want);
     }
 
     private static void bad(int k, String text, int fault, int place) {
-        AngelTown x = small();
-        due("P10 " + text, Check.tell(x, k, 0, text), NONE);
-        due("P11 of " + text, x.fault(0), fault);
-        due("P11 place of " + text, x.fault(1), place);
-        due("P10 the tape is empty behind " + text, x.end(1), false);
+        CHECK.bad(k, text, fault, place);
     }
 
     /** A number between two parts of a text: from a least one to a greatest one it is good. */

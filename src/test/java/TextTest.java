@@ -21,33 +21,15 @@ public final class TextTest {
     }
 
     private static AngelTown small() {
-        AngelTown x = new AngelTown();
-        x.town(4, 3);
-        x.ward(0);
-        x.ward(8);
-        x.angel(0, 1);
-        return x;
+        return Check.small();
     }
 
     private static void good(int k, String text, int want) {
-        AngelTown x = small();
-        due("P10 " + text, Check.tell(x, k, 0, text), want);
-        due("P11 of " + text, x.fault(0), 0);
-        due("P11 place of " + text, x.fault(1), NONE);
+        CHECK.good(k, text, want);
     }
 
     private static void bad(int k, String text, int fault, int place) {
-        AngelTown x = small();
-        due("P10 " + text, Check.tell(x, k, 0, text), NONE);
-        due("P11 of " + text, x.fault(0), fault);
-        due("P11 place of " + text, x.fault(1), place);
-        due("P11 what 2", x.fault(2), NONE);
-        due("P11 what -1", x.fault(-1), NONE);
-        due("P10 the tape is empty behind " + text, x.end(1), 0);
-    }
-
-    private static void due(String what, boolean got, int want) {
-        CHECK.due(what, got ? 1 : 0, want);
+        CHECK.bad(k, text, fault, place);
     }
 
     private static void answersAreHowMany() {

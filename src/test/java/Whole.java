@@ -9,8 +9,8 @@ final class Whole {
     private Whole() {
     }
 
-    /** A town in which all there is to tell was told, with seconds to undo, an image, a fault and a tape. */
-    static AngelTown lively() {
+    /** A town with wards on their ways, angels with plans and one of the others. */
+    static AngelTown peopled() {
         AngelTown x = new AngelTown();
         x.town(5, 4);
         x.state(4242);
@@ -20,14 +20,20 @@ final class Whole {
         x.angel(0, 1);
         x.angel(28, 2);
         x.other(1, 2, 3);
-        x.other(18, 0, 599);
-        x.set(0, 0, 2);
         x.set(1, 0, 2);
         x.set(1, 4, 3);
         Check.tell(x, 0, 0, "again 3(east 1;stand 1;)south 3;");
         Check.tell(x, 0, 1, "west 4;south 4;");
         Check.tell(x, 2, 0, "push;go 1;door;cat;go 8;gust;");
         Check.tell(x, 2, 1, "go 18;glove;wait 2;go 12;push;push;");
+        return x;
+    }
+
+    /** A town in which all there is to tell was told, with seconds to undo, an image, a fault and a tape. */
+    static AngelTown lively() {
+        AngelTown x = peopled();
+        x.other(18, 0, 599);
+        x.set(0, 0, 2);
         Check.tell(x, 1, 0, "mishap 30 at 1 from 0 to 9 chance 40;mishap 20 at 18 from 3 to 20 unless push chance 80;"
             + "mishap 9 at 2 from 1 to 30 ward 1;mishap 70 at 8 from 0 to 40 chance 10;mishap 8 at 3 from 0 to 0;");
         Check.tell(x, 3, 0, "fails when second>6 and kind=4;works when spoilt=0 or done>1;");
